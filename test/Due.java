@@ -1,15 +1,21 @@
 /** What the tests share: an answer held against the one that is due, and a town told in letters. */
 final class Due {
     private static int wrong = 0;
+    private static String sentence = "";
 
     private Due() {
+    }
+
+    /** The document's words by which the answers behind are due. */
+    static void says(String words) {
+        sentence = "\"" + words + "\": ";
     }
 
     static void is(String call, long want, long got) {
         if (got != want) {
             wrong++;
             if (wrong <= 200) {
-                System.out.println(call + " answered " + got + ", due is " + want);
+                System.out.println(sentence + call + " answered " + got + ", due is " + want);
             }
         }
     }
@@ -33,6 +39,21 @@ final class Due {
         CrossesAllOld x = new CrossesAllOld();
         holds("the town " + letters + " has no fault", town(x, letters) > 0);
         return x;
+    }
+
+    /** A town of the first so many streets of these, of none too. */
+    static CrossesAllOld first(String[] streets, int many) {
+        CrossesAllOld x = new CrossesAllOld();
+        StringBuilder text = new StringBuilder();
+        for (int s = 0; s < many; s++) {
+            text.append(streets[s]);
+        }
+        is("streets told", many == 0 ? -1000 : many, town(x, text.toString()));
+        return x;
+    }
+
+    static String number(int number) {
+        return (number < 0 ? "-" : "+") + Math.abs(number);
     }
 
     /** The call refused once just now, and nothing else was: the refusal's count is one more. */

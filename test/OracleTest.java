@@ -48,18 +48,14 @@ public final class OracleTest {
         CrossesAllOld x = new CrossesAllOld();
         for (int s = 0; s < due.streets.length; s++) {
             int[] street = due.streets[s];
-            Due.town(x, "s" + due.kinds[s] + number(street[0]) + number(street[1]) + number(street[2]) + ";");
+            Due.town(x, "s" + due.kinds[s] + Due.number(street[0]) + Due.number(street[1]) + Due.number(street[2]) + ";");
         }
         for (int[] plot : due.plots) {
-            Due.town(x, "p" + number(plot[0]) + number(plot[1]) + ";");
+            Due.town(x, "p" + Due.number(plot[0]) + Due.number(plot[1]) + ";");
         }
         Due.is("streets", due.streets.length, x.count(0));
         Due.is("plots", due.plots.length, x.count(1));
         return x;
-    }
-
-    private static String number(int number) {
-        return (number < 0 ? "-" : "+") + Math.abs(number);
     }
 
     private static void streets(CrossesAllOld x, Oracle due) {

@@ -90,15 +90,11 @@ public final class RowTest {
                 seed = (int) (seed * 1664525L + 1013904223L);
                 xy[j] = (int) ((seed & 0x7fffffffL) / 256 % 41) - 20;
             }
-            CrossesAllOld other = Due.with("sp+1+0+0;sp+0+1+0;sp+1+1+4;sp+1-1+3;p" + sign(xy[0]) + sign(xy[1]) + ";");
+            CrossesAllOld other = Due.with("sp+1+0+0;sp+0+1+0;sp+1+1+4;sp+1-1+3;p" + Due.number(xy[0]) + Due.number(xy[1]) + ";");
             if (other.where(0) != -9) {
                 found.add(other.where(0));
             }
         }
         return found.size();
-    }
-
-    private static String sign(int number) {
-        return (number < 0 ? "-" : "+") + Math.abs(number);
     }
 }
