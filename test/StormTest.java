@@ -86,7 +86,7 @@ public final class StormTest {
         return counted && got < 0 && got >= -6 ? (int) got : 0;
     }
 
-    private static long call(CrossesAllOld x, int call, int a, int b, int c, int d) {
+    static long call(CrossesAllOld x, int call, int a, int b, int c, int d) {
         switch (call) {
             case 0: return x.letter(a);
             case 1: return x.town();
