@@ -28,6 +28,7 @@ public final class BoundsLinesTest {
         spareByTheFirst();
         spareByTheLast();
         spareNone();
+        spareOfPlotsTogether();
         spareNotThroughAPlot();
         mostAtItsEnds();
         mostOfC();
@@ -295,6 +296,18 @@ public final class BoundsLinesTest {
         Due.is("the other two quarters meet at a tip", 0, Due.with("sp+1+0+0;sp+0+1+0;p+1+1;p-1-1;").spare(1, 1));
         Due.is("a quarter that all cut", -999, x.spare(1, 1));
         Due.refusals(x, "behind -999");
+    }
+
+    private static void spareOfPlotsTogether() {
+        Due.says("SPARE: cuts no QUARTER in which a PLOT lies");
+        for (int plots = 1; plots <= 8; plots++) {
+            String many = "p+5+5;".repeat(plots);
+            Due.is(plots + " on a bare plain", -999, Due.with(many).spare(1, 0));
+            Due.is(plots + " in a quarter", -99, Due.with("sp+1+0+0;sp+0+1+0;" + many).spare(1, 1));
+            // The first line that spares them goes through the tip of their quarter.
+            Due.is(plots + " in a quarter, turned", 0, Due.with("sp+1+0+0;sp+0+1+0;" + many).spare(-1, -1));
+        }
+        Due.is("two and two in two quarters", 0, Due.with("sp+1+0+0;sp+0+1+0;p+1+1;p+2+1;p-1-1;p-1-2;").spare(1, 1));
     }
 
     private static void spareNotThroughAPlot() {

@@ -34,6 +34,8 @@ public final class BoundsTownTest {
         behindAllAheadOfIt();
         allOrNothing();
         lettersAreNoMore();
+        earlierLettersAreNoMore();
+        theEndOf96();
         nothingIsCounted();
         aNewObject();
         Due.end("BoundsTownTest");
@@ -395,6 +397,34 @@ public final class BoundsTownTest {
             Due.is("a letter behind " + text, 1, x.letter('p'));
             Due.is("town() of it", -1001, x.town());
         }
+    }
+
+    // What stood behind the end in an earlier text would go on with a statement, were it still read.
+    private static void earlierLettersAreNoMore() {
+        Due.says("The letters become a TOWN, and are no more; the end, if something lacks");
+        for (String statement : new String[] {"sp+1-2+34;", "sn+1-2+3;", "p-12+13;", "p-1+2;"}) {
+            for (int length = 0; length < statement.length(); length++) {
+                String cut = statement.substring(0, length);
+                CrossesAllOld x = Due.with(statement);
+                Due.is(cut + " behind " + statement, -1000 - length, Due.town(x, cut));
+                Due.is("a statement ahead of " + cut, 1, Due.town(x, "p+0+0;"));
+            }
+        }
+    }
+
+    private static void theEndOf96() {
+        Due.says("96 at most; the end, if something lacks");
+        for (String statement : new String[] {"sp+1-2+34;", "p-12+13;"}) {
+            for (int length = 1; length < statement.length(); length++) {
+                fault(plotsOf(96 - length) + statement.substring(0, length), -1096);
+            }
+        }
+    }
+
+    /** Plots told in just so many letters (30 or more). */
+    private static String plotsOf(int letters) {
+        int ofSeven = letters % 6;
+        return "p+01+1;".repeat(ofSeven) + "p+1+1;".repeat((letters - 7 * ofSeven) / 6);
     }
 
     private static void nothingIsCounted() {
